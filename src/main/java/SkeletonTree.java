@@ -201,10 +201,6 @@ public final class SkeletonTree {
         return (set & only(point)) != 0;
     }
 
-    private static int leastOf(long set) {
-        return Long.bitCount((set & -set) - 1);
-    }
-
     /** Which points the edges of a graph, or of one piece, join. */
     private static final class Links {
         final long[] near = new long[POINTS];
@@ -231,10 +227,11 @@ public final class SkeletonTree {
             long waiting = seen;
             // A point waits once at most.
             for (int step = 0; step < POINTS && waiting != 0 && seen != set; step++) {
-                int point = leastOf(waiting);
-                long fresh = near[point] & set & ~seen;
+                long next = waiting & -waiting;
+                // As many bits lie below the only bit of next as its point's number says.
+                long fresh = near[Long.bitCount(next - 1)] & set & ~seen;
                 seen |= fresh;
-                waiting = (waiting & ~only(point)) | fresh;
+                waiting = (waiting & ~next) | fresh;
             }
             return seen;
         }
