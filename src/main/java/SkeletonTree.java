@@ -72,7 +72,7 @@ public final class SkeletonTree {
         }
         fillFirstPiece();
         pieces.comeApartWholly();
-        pieces.uniteAlike();
+        pieces.uniteRings();
         order.follow(pieces);
         nodes.take(pieces, order);
         built = true;
@@ -279,7 +279,6 @@ public final class SkeletonTree {
             Arrays.fill(home, NONE);
             slots = MOST_EDGES;
             count = 1;
-            startAt[0] = 0;
         }
 
         void place(int slot, int a, int b, int piece) {
@@ -349,8 +348,8 @@ public final class SkeletonTree {
             return points == 2 ? BOND : points == 3 ? RING : RIGID;
         }
 
-        /** No two bonds have a joint in common: all that hangs at two points leaves one bond. */
-        void uniteAlike() {
+        // Two bonds never have a joint in common here: what is split off at two points leaves one.
+        void uniteRings() {
             for (int side = MOST_EDGES; side < slots; side += 2) {
                 int one = home[side];
                 int other = home[side + 1];
@@ -392,13 +391,11 @@ public final class SkeletonTree {
 
         private void findLeastEdges(Pieces pieces) {
             Arrays.fill(least, MOST_EDGES);
-            count = 0;
             for (int e = MOST_EDGES - 1; e >= 0; e--) {
                 int piece = pieces.home[e];
                 if (piece != NONE) {
                     least[piece] = e;
                     row[0] = piece;
-                    count = 1;
                 }
             }
         }
@@ -407,6 +404,7 @@ public final class SkeletonTree {
         private void layRow(Pieces pieces) {
             above[row[0]] = NONE;
             sideUp[row[0]] = NONE;
+            count = 1;
             for (int i = 0; i < MOST_PIECES && i < count; i++) {
                 for (int side = MOST_EDGES; side < pieces.slots; side++) {
                     if (pieces.home[side] == row[i] && side != sideUp[row[i]] && count < MOST_PIECES) {
