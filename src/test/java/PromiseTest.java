@@ -6,6 +6,7 @@ import java.util.Arrays;
 import java.util.Set;
 import java.util.TreeSet;
 import java.util.function.IntConsumer;
+import java.util.function.Supplier;
 
 /** The promises one by one: ordinary inputs, the document's edges, and wrong inputs. */
 public final class PromiseTest {
@@ -413,18 +414,19 @@ public final class PromiseTest {
         }
     }
 
+    // Each row of pairs asks a new object, since an object is good for 512 calls alone.
     private static void promise14() {
         promise = "promise 14";
-        duePairs("triangle", triangle());
-        duePairs("bond of three", built(5, 9, 9, 5, 5, 9));
-        duePairs("bond of four", built(5, 9, 9, 5, 5, 9, 5, 9), 5, 9);
-        duePairs("ring of four", built(0, 1, 1, 2, 2, 3, 3, 0), 0, 2, 1, 3);
-        duePairs("ring of five", built(0, 1, 1, 2, 2, 3, 3, 4, 4, 0), 0, 2, 0, 3, 1, 3, 1, 4, 2, 4);
-        duePairs("chorded square", chordedSquare(), 0, 2);
-        duePairs("triangle with one edge twice", built(0, 1, 1, 2, 2, 0, 1, 0), 0, 1);
-        duePairs("K4", fourPoints());
-        duePairs("mixed", mixed(), 10, 13, 11, 13, 12, 13, 12, 31, 13, 30);
-        duePairs("three ways of two", built(0, 38, 38, 39, 0, 1, 1, 39, 0, 2, 2, 39), 0, 39);
+        duePairs("triangle", () -> triangle());
+        duePairs("bond of three", () -> built(5, 9, 9, 5, 5, 9));
+        duePairs("bond of four", () -> built(5, 9, 9, 5, 5, 9, 5, 9), 5, 9);
+        duePairs("ring of four", () -> built(0, 1, 1, 2, 2, 3, 3, 0), 0, 2, 1, 3);
+        duePairs("ring of five", () -> built(0, 1, 1, 2, 2, 3, 3, 4, 4, 0), 0, 2, 0, 3, 1, 3, 1, 4, 2, 4);
+        duePairs("chorded square", () -> chordedSquare(), 0, 2);
+        duePairs("triangle with one edge twice", () -> built(0, 1, 1, 2, 2, 0, 1, 0), 0, 1);
+        duePairs("K4", () -> fourPoints());
+        duePairs("mixed", () -> mixed(), 10, 13, 11, 13, 12, 13, 12, 31, 13, 30);
+        duePairs("three ways of two", () -> built(0, 38, 38, 39, 0, 1, 1, 39, 0, 2, 2, 39), 0, 39);
         SkeletonTree tree = chordedSquare();
         for (int p : WRONG_POINTS) {
             dueThrow("isPair(" + p + ", 0)", NO_SUCH, () -> tree.isPair(p, 0));
@@ -433,8 +435,9 @@ public final class PromiseTest {
         }
     }
 
-    private static void duePairs(String what, SkeletonTree tree, int... want) {
+    private static void duePairs(String what, Supplier<SkeletonTree> maker, int... want) {
         for (int u = 0; u < 40; u++) {
+            SkeletonTree tree = maker.get();
             for (int v = 0; v < 40; v++) {
                 due(what + ": isPair(" + u + ", " + v + ")", tree.isPair(u, v), isAmong(u, v, want));
             }
@@ -452,17 +455,17 @@ public final class PromiseTest {
 
     private static void promise15() {
         promise = "promise 15";
-        dueApart("triangle", triangle());
-        dueApart("bond of four", built(5, 9, 9, 5, 5, 9, 5, 9));
-        dueApart("ring of four", built(0, 1, 1, 2, 2, 3, 3, 0), 0, 2, 1, 3);
-        dueApart("ring of five", built(0, 1, 1, 2, 2, 3, 3, 4, 4, 0), 0, 2, 0, 3, 1, 3, 1, 4, 2, 4);
-        dueApart("chorded square", chordedSquare(), 1, 3);
-        dueApart("K4", fourPoints());
+        dueApart("triangle", () -> triangle());
+        dueApart("bond of four", () -> built(5, 9, 9, 5, 5, 9, 5, 9));
+        dueApart("ring of four", () -> built(0, 1, 1, 2, 2, 3, 3, 0), 0, 2, 1, 3);
+        dueApart("ring of five", () -> built(0, 1, 1, 2, 2, 3, 3, 4, 4, 0), 0, 2, 0, 3, 1, 3, 1, 4, 2, 4);
+        dueApart("chorded square", () -> chordedSquare(), 1, 3);
+        dueApart("K4", () -> fourPoints());
         // Three ways that meet at the ends alone hold the ends, but not what lies on the ways.
-        dueApart("three ways of two", built(0, 38, 38, 39, 0, 1, 1, 39, 0, 2, 2, 39), 38, 1, 38, 2, 1, 2);
+        dueApart("three ways of two", () -> built(0, 38, 38, 39, 0, 1, 1, 39, 0, 2, 2, 39), 38, 1, 38, 2, 1, 2);
         // A prism: rigid, so that points without an edge between them still hold.
-        dueApart("prism", built(0, 1, 1, 2, 2, 0, 3, 4, 4, 5, 5, 3, 0, 3, 1, 4, 2, 5));
-        dueApart("mixed", mixed(),
+        dueApart("prism", () -> built(0, 1, 1, 2, 2, 0, 3, 4, 4, 5, 5, 3, 0, 3, 1, 4, 2, 5));
+        dueApart("mixed", () -> mixed(),
                 20, 11, 20, 12, 20, 30, 20, 31, 10, 30, 10, 31, 11, 30, 11, 31, 12, 31, 13, 30);
         SkeletonTree tree = chordedSquare();
         for (int p : WRONG_POINTS) {
@@ -472,8 +475,9 @@ public final class PromiseTest {
         }
     }
 
-    private static void dueApart(String what, SkeletonTree tree, int... want) {
+    private static void dueApart(String what, Supplier<SkeletonTree> maker, int... want) {
         for (int u = 0; u < 40; u++) {
+            SkeletonTree tree = maker.get();
             for (int v = 0; v < 40; v++) {
                 due(what + ": comeApart(" + u + ", " + v + ")", tree.comeApart(u, v), isAmong(u, v, want));
             }
@@ -482,19 +486,20 @@ public final class PromiseTest {
 
     private static void numbers() {
         promise = "numbers";
-        // Beyond the first joint lie edges 3 and 9 (in a node further on), beyond the other 6 to 8:
-        // what lies further on beyond the first is numbered before the other.
+        // Edge 2 lies beyond the joint at 2-3, but not in the node next to it: that node and all
+        // beyond it come first, though the node at 3-0 has a lesser edge than the one at 2-3.
         SkeletonTree tree = built(
-                0, 1, 1, 2, // 0, 1: a ring with two joints
-                4, 5, // 2: an edge of a ring far away at 2-3
-                2, 3, 3, 0, // 3, 4
+                0, 1, 1, 2, // 0, 1: a ring with joints at 2-3 and 3-0
+                4, 5, // 2: an edge of the ring 2-4-5-3
+                3, 0, // 3: in the bond at 3-0
+                2, 3, // 4: in the bond at 2-3
                 3, 6, 6, 0, // 5, 6: a ring at 3-0
-                2, 4, 5, 3); // 7, 8: the rest of the ring far away
+                2, 4, 5, 3); // 7, 8: the rest of the ring 2-4-5-3
         due("build()", tree.build(), 5);
         dueItems(tree, 0, 0, 1, -3, -5);
-        dueItems(tree, 1, 3, -2, -4);
+        dueItems(tree, 1, 4, -2, -4);
         dueItems(tree, 2, 2, 7, 8, -3);
-        dueItems(tree, 3, 4, -2, -6);
+        dueItems(tree, 3, 3, -2, -6);
         dueItems(tree, 4, 5, 6, -5);
         // Node 0 has the edge with the least number that is there still.
         SkeletonTree dropped = graph(0, 2, 2, 3, 3, 0, 0, 2, 0, 1, 1, 2);
